@@ -169,9 +169,8 @@ public final class FactorDesk {
         if (!isRegister(d) || !isRegister(r)) {
             return BAD;
         }
-        load(r, operand);
-        clear(result);
-        if (degreeOf(operand) >= 0) {
+        load(r, result);
+        if (degreeOf(result) >= 0) {
             findFactors(r);
             makeProductOfDifferent();
         }

@@ -74,10 +74,20 @@ public final class ChangeTest {
         Check.holds("after BAD", desk, 1);
     }
 
+    /** What an earlier call left behind has no part in a later one. */
+    private static void oneAfterAnother() {
+        FactorDesk desk = new FactorDesk();
+        Check.put(desk, 0, 0, 0, 0, 0, 0, 1);
+        Check.due("shift(1, 0, 1)", desk.shift(1, 0, 1), 5);
+        Check.due("derive(2, 0)", desk.derive(2, 0), 4);
+        Check.holds("derive(2, 0)", desk, 2, 0, 0, 0, 0, 5);
+    }
+
     public static void main(String[] args) {
         derivatives();
         shifts();
         badNumbers();
+        oneAfterAnother();
         Check.finish();
     }
 }

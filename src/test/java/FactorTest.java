@@ -85,6 +85,10 @@ public final class FactorTest {
         factored(of(20, -1, -1), of(-4, 1), of(5, 1));
         factored(of(-20, 19, 1), of(-1, 1), of(20, 1));
         factored(of(-1, 19, 20), of(1, 1), of(-1, 20));
+        // The largest ends beside a factor of degree 2.
+        factored(of(-1, 20, -1, 20), of(-1, 20), of(1, 0, 1));
+        factored(of(20, 1, 20, 1), of(20, 1), of(1, 0, 1));
+        factored(of(-20, 1, -20, 1), of(-20, 1), of(1, 0, 1));
     }
 
     private static void quadratic() {
@@ -103,6 +107,10 @@ public final class FactorTest {
         // x^5 + x + 1 and x^5 + x^4 + 1.
         factored(of(1, 1, 0, 0, 0, 1), of(1, 1, 1), of(1, 0, -1, 1));
         factored(of(1, 0, 0, 0, 1, 1), of(1, 1, 1), of(1, -1, 0, 1));
+        // The largest ends beside a factor of degree 3.
+        factored(of(1, -1, 20, -19, 0, 20), of(1, 0, 20), of(1, -1, 0, 1));
+        factored(of(20, 0, -19, 20, -1, 1), of(20, 0, 1), of(1, 0, -1, 1));
+        factored(of(-20, 0, -19, -20, 1, 1), of(-20, 0, 1), of(1, 0, 1, 1));
     }
 
     private static void larger() {
